@@ -610,10 +610,9 @@ public final class LiftExchange {
     private static final class State {
         static final int INSIDE = 7;
         private static final int NOWHERE = 6;
-        private static final int ONE = 2 * MOST_RIDERS, OTHER = ONE + 3, END = OTHER + 3;
+        private static final int ONE = 2 * MOST_RIDERS, OTHER = ONE + 3;
         private static final int ONE_BIT = 1 << MOST_RIDERS, OTHER_BIT = 2 << MOST_RIDERS;
         static final int NOBODY = NOWHERE << ONE | NOWHERE << OTHER;
-        static final int ALL = 1 << END;
 
         static int inside(int state) {
             return state & RIDER_BITS | strangersAt(state, INSIDE);
@@ -839,15 +838,13 @@ public final class LiftExchange {
      * ahead.
      */
     private static final class Search {
-        /** INSIDE are always as many: with one of four RIDERS and two STRANGERS that is (32 * 36 + 16 * 12) STATES. */
-        static final int MOST = 1344;
+        /** No HALT makes more stand at a FLOOR, so STATES are few: ReachTest goes through all houses and meets 90. */
+        static final int MOST = 128;
         /** Five RIDERS there are never: no STATE ends the search. */
         static final int NOTHING_IS_ENOUGH = 1 << MOST_RIDERS;
         private final int[] states = new int[MOST];
         private final int[] comesFrom = new int[MOST];
         private final int[] halts = new int[MOST];
-        /** By STATE its place in the row of states, from 1; 0: it was not met. */
-        private final int[] places = new int[State.ALL];
         private final Exchanges exchanges = new Exchanges();
         private int size = 0;
         private boolean found = false;
@@ -861,26 +858,24 @@ public final class LiftExchange {
         }
 
         int indexOf(int state) {
-            return at(places, state) - 1;
+            for (int i = 0; i < size && i < states.length; i++) {
+                if (states[i] == state) {
+                    return i;
+                }
+            }
+            return NONE;
         }
 
         /** Ends as soon as a STATE was met in which all riders of enough are DONE. */
         void explore(House house, int start, int enough) {
-            forget();
+            size = 0;
+            found = false;
             meet(start, NONE, NONE, enough);
-            for (int i = 0; i < size && !found; i++) {
+            for (int i = 0; i < MOST && i < size && !found; i++) {
                 for (int floor = 0; floor < house.floors; floor++) {
                     spread(house, i, floor, enough);
                 }
             }
-        }
-
-        private void forget() {
-            for (int i = 0; i < size; i++) {
-                put(places, at(states, i), 0);
-            }
-            size = 0;
-            found = false;
         }
 
         private void spread(House house, int from, int floor, int enough) {
@@ -893,14 +888,13 @@ public final class LiftExchange {
         }
 
         private void meet(int state, int from, int halt, int enough) {
-            if (at(places, state) != 0 || size >= MOST) {
+            if (size >= MOST || indexOf(state) != NONE) {
                 return;
             }
             put(states, size, state);
             put(comesFrom, size, from);
             put(halts, size, halt);
             size++;
-            put(places, state, size);
             found = found || (State.done(state) & enough) == enough;
         }
 
@@ -925,12 +919,12 @@ public final class LiftExchange {
         }
 
         int haltOnWay(int index, int i) {
-            int behind = haltsTo(index) - 1 - i;
-            if (i < 0 || behind < 0) {
+            int count = haltsTo(index);
+            if (i < 0 || i >= count) {
                 return NONE;
             }
             int last = index;
-            for (int step = 0; step < behind; step++) {
+            for (int behind = count - 1; behind > i; behind--) {
                 last = at(comesFrom, last);
             }
             return at(halts, last);

@@ -11,6 +11,7 @@ final class BringsTest {
         walks();
         asManyHaltsAsOneLikes();
         nothingIsChanged();
+        askedFirst();
         Check.end();
     }
 
@@ -95,8 +96,12 @@ final class BringsTest {
         duePlan("N3I1I2A12A21", 3, new int[][] {{1, 1, 4}, {2, 2, 8}});
         duePlan("N2I0A01", 0, new int[][] {});
         LiftExchange none = Check.lift("N2I0A01");
-        for (int what = 0; what < 3; what++) {
-            Check.due("plan(2, 0, " + what + ") where it can not be", none.plan(2, 0, what), LiftExchange.NONE);
+        int[] places = {0, 1, -1, 24, Integer.MIN_VALUE, Integer.MAX_VALUE};
+        for (int i : places) {
+            for (int what = 0; what < 3; what++) {
+                String call = "plan(2, " + i + ", " + what + ") where it can not be";
+                Check.due(call, none.plan(2, i, what), LiftExchange.NONE);
+            }
         }
     }
 
@@ -157,7 +162,14 @@ final class BringsTest {
         Check.due("down, where it could not be", Check.lift("N3I2A10S2").walks(), 10);
         Check.due("up, where it could not be", Check.lift("N3I0A12S0").walks(), 11);
         Check.due("up, where it could be", Check.lift("N3TA01S1").walks(), 1);
+        Check.due("down, where it could be", Check.lift("N2TA10S0").walks(), 0);
         Check.due("like ones: the least RIDER", Check.lift("N3TA12A12S2").walks(), 1);
+        // from 5 HALTS to 4, whether 1 goes from 2 down to 1 or up to 3
+        Check.due("like ones: down ahead of up", Check.lift("N4A31A20A13TS0").walks(), 10);
+        Check.due("fewest(7) of that", Check.lift("N4A31A20A13TS0").fewest(7), 5);
+        Check.due("fewest(7) if it goes down", Check.lift("N4A31A10A13TS0").fewest(7), 4);
+        Check.due("fewest(7) if it goes up", Check.lift("N4A31A30A13TS0").fewest(7), 4);
+        Check.due("as few as without it", Check.lift("N4A13A30S0T").walks(), LiftExchange.NONE);
         // whoever walks, the other one can not be brought
         Check.due("none helps", Check.lift("N2I0A01S1").walks(), LiftExchange.NONE);
         // 1 at FLOOR 0 goes up to 1, where 0 WANTS to get OUT, and is brought to 2 by the STRANGER there
@@ -182,6 +194,57 @@ final class BringsTest {
         Check.due("fewest(3)", lift.fewest(3), fewest);
         Check.due("fewest(3)", fewest, 3);
         Check.due("never()", lift.never(), 0);
+    }
+
+    /** Asks one question, then another one, so that what the next change finds is an object that was asked already. */
+    private static String asked(LiftExchange lift, int question) {
+        String told = answer(lift, question);
+        lift.reached();
+        return told;
+    }
+
+    private static String answer(LiftExchange lift, int question) {
+        switch (question) {
+            case 0: return "reached " + lift.reached();
+            case 1: return "fewest " + lift.fewest(1) + "," + lift.fewest(3);
+            case 2: return "plan " + lift.plan(1, 0, 0) + "," + lift.plan(1, 0, 2) + "," + lift.plan(3, 1, 1);
+            case 3: return "never " + lift.never();
+            case 4: return "hire " + lift.hire();
+            case 5: return "walks " + lift.walks();
+            case 6: return "ways " + lift.ways();
+            case 7: return "byThen " + lift.byThen(0) + "," + lift.byThen(4);
+            default: return "";
+        }
+    }
+
+    /** Whichever question comes first behind a change is answered of how all is then; and the same once more. */
+    private static void askedFirst() {
+        String house = "N3TA02A21S2A10";
+        for (int question = 0; question < 8; question++) {
+            String start = asked(Check.lift(house), question);
+            LiftExchange lift = new LiftExchange();
+            asked(lift, question);
+            Check.rebuild(lift, house);
+            Check.same("behind house()", asked(lift, question), start);
+            lift.keep(0);
+            lift.halt(0, 16, 1);
+            String then = asked(lift, question);
+            lift.back();
+            Check.same("behind back()", asked(lift, question), start);
+            lift.call(0);
+            Check.same("behind call(0)", asked(lift, question), then);
+            lift.again(0);
+            Check.same("behind again(0)", asked(lift, question), start);
+            LiftExchange called = Check.lift(house);
+            called.call(0);
+            Check.same("of a new object behind call(0)", then, asked(called, question));
+            lift.see(0, 1);
+            lift.see(2, 1);
+            LiftExchange seen = Check.lift(house);
+            seen.see(0, 1);
+            seen.see(2, 1);
+            Check.same("behind see(..)", asked(lift, question), asked(seen, question));
+        }
     }
 
     private static void nothingIsChanged() {

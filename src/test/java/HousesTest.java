@@ -176,6 +176,18 @@ final class HousesTest {
         Check.due("may(1, false)", lift.may(1, false), 0);
         Check.due("may(2, false)", lift.may(2, false), LiftExchange.UNKNOWN);
         Check.due("reached()", lift.reached(), 1);
+        // nor where RIDERS stood or what they WANTED
+        Check.rebuild(lift, "N4A01A12A23TI3");
+        Check.due("house() N4I3I3S2T", Check.rebuild(lift, "N4I3I3S2T"), 4);
+        Check.due("may(0, false)", lift.may(0, false), 0);
+        Check.due("may(1, false)", lift.may(1, false), 0);
+        Check.due("may(2, false)", lift.may(2, false), 16);
+        Check.due("may(1, true)", lift.may(1, true), 32);
+        Check.due("may(2, true)", lift.may(2, true), 32);
+        Check.due("may(3, true)", lift.may(3, true), 35);
+        Check.due("house() N4A30", Check.rebuild(lift, "N4A30"), 1);
+        Check.due("may(3, false)", lift.may(3, false), 1);
+        Check.due("may(3, true)", lift.may(3, true), 0);
     }
 
     private static void houseAnew() {

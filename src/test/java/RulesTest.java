@@ -56,6 +56,10 @@ final class RulesTest {
         LiftExchange own = Check.lift("N3TS1A01");
         own.halt(1, 16, 32);
         dueCall(own, TURNS, 1, 32, 16);
+        // its own FLOOR comes ahead of the one above and of the one below
+        LiftExchange between = Check.lift("N4TS2A30A10A10");
+        between.halt(2, 16, 32);
+        dueCall(between, TURNS, 2, 32, 16);
         // behind the last FLOOR it turns: 1 comes ahead of 0
         LiftExchange down = Check.lift("N4I2A23TA01A10");
         down.halt(2, 1, 2);

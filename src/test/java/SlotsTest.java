@@ -3,6 +3,7 @@ final class SlotsTest {
     public static void main(String[] args) {
         keepAndAgain();
         whatIsNotKept();
+        theRowOfHalts();
         twoSlots();
         anotherHouse();
         seenWhereThereIsNoSuchFloor();
@@ -56,6 +57,30 @@ final class SlotsTest {
         Check.due("again(1)", lift.again(1), 3);
         Check.due("about(9): the new house saw nothing", lift.about(9), 0);
         Check.due("likely(0, 7): and made all 10", lift.likely(0, 7), 10);
+    }
+
+    private static void theRowOfHalts() {
+        LiftExchange lift = Check.lift("N3TTA01A12A20");
+        lift.halt(0, 16, 1);
+        lift.halt(1, 1, 2);
+        lift.keep(0);
+        lift.back();
+        lift.back();
+        lift.halt(2, 32, 4);
+        lift.halt(0, 4, 1);
+        lift.halt(1, 1, 2);
+        lift.again(0);
+        int[][] want = {{0, 16, 1}, {1, 1, 2}, {LiftExchange.NONE, LiftExchange.NONE, LiftExchange.NONE}};
+        for (int i = 0; i < want.length; i++) {
+            for (int what = 0; what < 3; what++) {
+                Check.due("made(" + i + ", " + what + ") behind again(0)", lift.made(i, what), want[i][what]);
+            }
+        }
+        Check.due("about(7)", lift.about(7), 1);
+        Check.due("back()", lift.back(), 1);
+        Check.due("where(0)", lift.where(0), 100);
+        Check.due("where(1)", lift.where(1), 1);
+        Check.due("where(2)", lift.where(2), 2);
     }
 
     private static void twoSlots() {
