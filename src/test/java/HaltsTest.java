@@ -112,17 +112,8 @@ final class HaltsTest {
         }
     }
 
-    /** Two STRANGERS who change places at a FLOOR as often as one likes. */
-    private static LiftExchange changed(int times) {
-        LiftExchange lift = Check.lift("N3TS1");
-        for (int i = 0; i < times; i++) {
-            Check.due("halt " + i, i % 2 == 0 ? lift.halt(1, 16, 32) : lift.halt(1, 32, 16), 1);
-        }
-        return lift;
-    }
-
     private static void haltsThatAreFull() {
-        LiftExchange lift = changed(24);
+        LiftExchange lift = Check.changed(24);
         Check.due("about(6)", lift.about(6), 24);
         Check.refused(lift, "halt(1, 16, 32), 25th", x -> x.halt(1, 16, 32), LiftExchange.FULL);
         Check.due("halt(1, 32, 16): BAD first", lift.halt(1, 32, 16), LiftExchange.BAD);

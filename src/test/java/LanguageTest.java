@@ -4,12 +4,14 @@ import java.lang.reflect.Method;
 import java.lang.reflect.Modifier;
 import java.nio.file.Files;
 import java.nio.file.Path;
+import java.util.Arrays;
 import java.util.List;
 import java.util.Set;
 import java.util.TreeSet;
+import java.util.regex.Matcher;
 import java.util.regex.Pattern;
 
-/** What of LANGUAGE.md a program can see of the file and the class: rules 1, 2, 4, 5, 6, 11. */
+/** What of LANGUAGE.md a program can see of the file and the class: rules 1, 2, 4, 5, 6, 7, 9, 11. */
 final class LanguageTest {
     private static final Path FILE = Path.of("src", "main", "java", "LiftExchange.java");
     private static final int MOST_LINES_OF_A_METHOD = 60;
@@ -37,6 +39,9 @@ final class LanguageTest {
         String code = Files.readString(FILE).replaceAll("(?s)/\\*.*?\\*/", "").replaceAll("//.*", "");
         words(code);
         imports(code);
+        indexes(code);
+        divisors(code);
+        loops(code);
         methodsAreShort(Files.readAllLines(FILE));
         Check.end();
     }
@@ -141,6 +146,44 @@ final class LanguageTest {
             .forEach(m -> library.add(m.group()));
         Check.same("the library", library.toString(),
             "[Arrays.fill, Integer.bitCount, Math.abs, Math.min, System.arraycopy]");
+    }
+
+    /** Rule 7: a place of a row is used where its own line, or one of the six before it, has looked at it. */
+    private static void indexes(String code) {
+        String[] lines = code.split("\n");
+        Pattern use = Pattern.compile("(?<!new (?:int|long|Ride))\\b(\\w+)\\[(\\w[^\\]]*)\\]");
+        for (int i = 0; i < lines.length; i++) {
+            Matcher found = use.matcher(lines[i].replaceAll("new \\w+\\[[^\\]]*\\]", ""));
+            while (found.find()) {
+                String test = found.group(2) + " (<|>=) " + found.group(1) + "\\.length";
+                String before = String.join(" ", Arrays.asList(lines).subList(Math.max(0, i - 6), i + 1));
+                boolean tested = Pattern.compile(test).matcher(before).find();
+                Check.due("a place that is looked at before" + lines[i], tested ? 1 : 0, 1);
+            }
+        }
+    }
+
+    /** Rule 7: what divides is a number, or was looked at just before. */
+    private static void divisors(String code) {
+        String[] lines = code.split("\n");
+        Pattern use = Pattern.compile(" [/%]=? (\\w+)");
+        for (int i = 0; i < lines.length; i++) {
+            Matcher found = use.matcher(lines[i]);
+            while (found.find()) {
+                String before = String.join(" ", Arrays.asList(lines).subList(Math.max(0, i - 2), i));
+                boolean tested = found.group(1).matches("[1-9]\\d*") || before.contains(found.group(1) + " != 0");
+                Check.due("a divisor that is looked at before" + lines[i], tested ? 1 : 0, 1);
+            }
+        }
+    }
+
+    /** Rule 9: each loop has a counter against a bound in its own line. */
+    private static void loops(String code) {
+        for (String line : code.split("\n")) {
+            if (line.matches("\\s*(for|while|do)\\b.*")) {
+                Check.due("a loop with a bound:" + line, line.matches(".*\\w+ (<|<=|>|>=) [\\w.]+.*") ? 1 : 0, 1);
+            }
+        }
     }
 
     private static void methodsAreShort(List<String> lines) {

@@ -9,7 +9,10 @@ import java.util.List;
 final class ReachTest {
     private static final int FLOORS = 6;
     private static final int MOST_REACHED = 90;
-    private final LiftExchange lift = new LiftExchange();
+    /** Of an object nothing is promised behind its 512th call, and a house takes up to seven. */
+    private static final int HOUSES_AN_OBJECT = 64;
+    private LiftExchange lift = new LiftExchange();
+    private int houses = 0;
     private int most = 0;
 
     public static void main(String[] args) {
@@ -54,6 +57,10 @@ final class ReachTest {
     private void tryOut(String house) {
         if (house.indexOf('I') < 0 && house.indexOf('T') < 0) {
             return;
+        }
+        houses++;
+        if (houses % HOUSES_AN_OBJECT == 0) {
+            lift = new LiftExchange();
         }
         Check.rebuild(lift, house);
         most = Math.max(most, lift.reached());
