@@ -16,6 +16,7 @@ final class ChancesEdgesTest {
         allThere();
         inLeastTerms();
         fromLeastToMostTenths();
+        eachByItsOwnTenths();
         otherFloorsAreNoMatter();
         floorsThereAre();
         Check.end();
@@ -197,6 +198,34 @@ final class ChancesEdgesTest {
             lift.likely(who, tenths);
         }
         return lift;
+    }
+
+    /** "each is there by tenths": one may get OUT by 3, two IN by 10 and by 5, nobody else is there. */
+    private static void eachByItsOwnTenths() {
+        for (int one = 0; one < 6; one++) {
+            for (int other = 0; other < 6; other++) {
+                for (int third = 0; third < 6; third++) {
+                    if (one != other && other != third && third != one) {
+                        LiftExchange lift = allAt(0, onlyInside(one));
+                        lift.likely(one, 3);
+                        lift.likely(other, 10);
+                        lift.likely(third, 5);
+                        dueEven(lift, 0, 3, 20);
+                    }
+                }
+            }
+        }
+    }
+
+    /** All six at FLOOR 0, where one may get OUT and the others IN. */
+    private static String onlyInside(int one) {
+        StringBuilder house = new StringBuilder("N2");
+        for (int who = 0; who < 6; who++) {
+            String rider = who == one ? "I0" : "A01";
+            String stranger = who == one ? "T" : "S0";
+            house.append(who < 4 ? rider : stranger);
+        }
+        return house.toString();
     }
 
     /** "of those there that may get OUT and of those there that may get IN": who may neither is no matter. */
